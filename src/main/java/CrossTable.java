@@ -30,6 +30,8 @@ public final class CrossTable {
     private static final int LONG_BITS = 64;
 
     private static final int GREATEST_SEEN = 9999;
+    private static final int TOWN_UNIT = 10000;
+    private static final int WARE_UNIT = 1000;
     private static final int GREATEST_LOST = 999;
     private static final int TENTHS = 10;
     private static final int DOING_AMOUNT = 11;
@@ -303,7 +305,7 @@ public final class CrossTable {
             for (int ware = 0; ware < wares; ware++) {
                 for (int amount = 0; amount <= MISSING; amount++) {
                     if (isAllSeenSo(town, ware, amount)) {
-                        first = many == 0 ? 10000 * town + 1000 * ware + amount : first;
+                        first = many == 0 ? TOWN_UNIT * town + WARE_UNIT * ware + amount : first;
                         many++;
                     }
                 }
@@ -863,7 +865,7 @@ public final class CrossTable {
             return least == MISSING ? NONE : least;
         }
 
-        /** Amounts go to 99, so two longs have a bit for each. */
+        /** Amounts go to 99, so two longs have a bit for each; a shift of a long goes by what is left by 64. */
         int kindsOf(int set) {
             long low = 0;
             long high = 0;

@@ -9,6 +9,7 @@ public final class TableTest {
         total();
         topAndRest();
         topOfMissing();
+        goneRowsLeaveNothing();
         Due.end("TableTest");
     }
 
@@ -169,5 +170,18 @@ public final class TableTest {
         Due.is("its entries", x.drill(99, 0), 3);
         x.change(2, 100);
         keys(x, 0, 0, 99);
+    }
+
+    private static void goneRowsLeaveNothing() {
+        CrossTable x = Due.planned("abcount.01");
+        Due.fill(x, 1, 1, 0, 2, 2, 0, 3, 3, 0);
+        Due.is("cells", x.count(4), 3);
+        x.drop(2);
+        Due.is("a row that is gone", x.along(0, 3), Due.NONE);
+        Due.is("a column that is gone", x.along(1, 3), Due.NONE);
+        Due.is("its cell", x.drill(3, 3), 0);
+        Due.is("cells", x.count(4), 2);
+        keys(x, 0, 1, 2);
+        keys(x, 1, 1, 2);
     }
 }
