@@ -136,8 +136,19 @@ public final class ActEdgesTest {
         Due.is("from 0", x.change(3, 100), 0);
         Due.is("from none", x.change(3, 99), 100);
         Due.is("from 99", x.change(3, 5), 99);
-        Due.is("to the same", x.change(3, 5), 5);
         Due.is("the first", x.change(0, 0), 100);
+        Due.is("acts", x.count(6), 11);
+        Due.is("to the same", x.change(3, 5), 5);
+        Due.is("which is an act too", x.count(6), 12);
+        Due.is("to none", x.change(3, 100), 5);
+        Due.is("to none once more", x.change(3, 100), 100);
+        Due.is("to 0", x.change(3, 0), 100);
+        x.undo();
+        Due.is("0 is undone", x.entry(3, 2), 100);
+        x.undo();
+        Due.is("none is undone by none", x.entry(3, 2), 100);
+        x.undo();
+        Due.is("none is undone", x.entry(3, 2), 5);
     }
 
     private static void changeRefuses() {

@@ -62,7 +62,8 @@ final class Due {
     /** Town, ware and amount of all entries, and how many acts there are: what a call that changes nothing leaves. */
     static String stateOf(CrossTable x) {
         StringBuilder state = new StringBuilder();
-        for (int i = 0; i < x.count(1); i++) {
+        int entries = x.count(1);
+        for (int i = 0; i < entries; i++) {
             state.append(x.entry(i, 0)).append(',').append(x.entry(i, 1)).append(',').append(x.entry(i, 2)).append(' ');
         }
         return state.append("acts ").append(x.count(6)).append(" seen ").append(x.count(7))
@@ -110,8 +111,10 @@ final class Due {
         same(after, tableOf(x), tableOf(y));
         for (int left = x.count(6); left >= 0; left--) {
             is(after + ": undo", x.undo(), y.undo());
-            same(after + ", undone", stateOf(x), stateOf(y));
+            is(after + ", undone: entries", x.count(1), y.count(1));
+            is(after + ", undone: total", x.total(), y.total());
         }
+        same(after + ", all undone", stateOf(x), stateOf(y));
         for (int slot = 0; slot <= 1; slot++) {
             is(after + ": again(" + slot + ")", x.again(slot), y.again(slot));
             same(after + ", again", stateOf(x), stateOf(y));
@@ -124,7 +127,8 @@ final class Due {
 
     private static String tableOf(CrossTable x) {
         StringBuilder table = new StringBuilder(stateOf(x));
-        for (int i = 0; i < x.count(1); i++) {
+        int entries = x.count(1);
+        for (int i = 0; i < entries; i++) {
             table.append(' ').append(x.entry(i, 3)).append(',').append(x.entry(i, 4));
         }
         return table.append(" total ").append(x.total()).toString();

@@ -160,6 +160,12 @@ public final class PlanEdgesTest {
         Due.is("fault of no text", new CrossTable().fault(), 0);
         Due.is("fault", faultOf("aa"), 1);
         Due.is("none", faultOf("avcount.09"), Due.NONE);
+        CrossTable x = Due.planned("abmost.11");
+        Due.fill(x, 0, 0, 5, 1, 0, 7);
+        Due.retell(x, "basum.01");
+        Due.is("none", x.fault(), Due.NONE);
+        Due.is("it is only told: the measure stays", x.word(0), 'm');
+        Due.keysAre("it is only told: the rows stay", x, 0, 1, 99);
     }
 
     private static void planOfAFault() {

@@ -36,9 +36,10 @@ public final class RefusalEdgesTest {
         return x;
     }
 
-    /** No acts, no fault. */
+    /** No acts; the text has no fault, and is not the plan. */
     private static CrossTable bare() {
         CrossTable x = Due.planned("abmost.12");
+        Due.retell(x, "bvsum.34");
         Due.fill(x, 0, 0, 5, 1, 1, 100, 3, 2, 9);
         x.keep(1);
         x.again(1);

@@ -3,7 +3,8 @@ import java.lang.management.ManagementFactory;
 /** All calls of one run live in one room: a table is small, and its dearest calls make nothing in it. */
 public final class RoomTest {
     private static final int TABLES = 1000;
-    private static final int CALLS = 512;
+    /** With those that make the table ready, fewer than 512. */
+    private static final int CALLS = 448;
 
     public static void main(String[] args) {
         com.sun.management.ThreadMXBean bean = (com.sun.management.ThreadMXBean) ManagementFactory.getThreadMXBean();

@@ -183,6 +183,11 @@ public final class SlotEdgesTest {
         Due.retell(x, "abcount.01");
         x.plan();
         countsAre("all groups", x, 10, 6, 4, 3, 5, 0, 6, 0);
+        CrossTable far = Due.planned("basum.01");
+        Due.fill(far, 1, 2, 100, 3, 4, 100);
+        countsAre("keys far apart", far, 8, 2, 2, 2, 2, 2, 2, 0);
+        far.drop(1);
+        countsAre("one is gone", far, 8, 1, 1, 1, 1, 1, 3, 0);
     }
 
     private static void countOutside() {

@@ -5,6 +5,7 @@ public final class WouldTest {
         best();
         judgeTells();
         judgeActs();
+        judgeActsWhenFull();
         judgeIsNotSo();
         Due.end("WouldTest");
     }
@@ -114,16 +115,18 @@ public final class WouldTest {
         judge(x, 2, 3000_6020L, Due.NONE);
         judge(x, 2, 3100_6031L, Due.NONE);
         judge(x, 2, 3100_6032L, 1);
-        for (int i = 3; i < 16; i++) {
-            x.add(2, 2, 1);
+    }
+
+    private static void judgeActsWhenFull() {
+        long[][] judged = {{1, 1000L, 0}, {2, 20151000L, Due.NONE}, {3, 201510001000L, 2}, {1, 2015L, Due.NONE},
+            {1, 2016L, 0}, {1, 2099L, 0}, {1, 3016L, 0}};
+        for (long[] one : judged) {
+            CrossTable x = sample();
+            for (int i = 3; i < 16; i++) {
+                x.add(2, 2, 1);
+            }
+            judge(x, (int) one[0], one[1], (int) one[2]);
         }
-        judge(x, 1, 1000L, 0);
-        judge(x, 2, 20151000L, Due.NONE);
-        judge(x, 3, 201510001000L, 2);
-        judge(x, 1, 2015L, Due.NONE);
-        judge(x, 1, 2016L, 0);
-        judge(x, 1, 2099L, 0);
-        judge(x, 1, 3016L, 0);
     }
 
     private static void judgeIsNotSo() {
