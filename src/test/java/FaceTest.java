@@ -10,25 +10,49 @@ import java.util.TreeSet;
 import java.util.regex.Matcher;
 import java.util.regex.Pattern;
 
-/** The public face, and those rules of LANGUAGE.md that a machine can see. */
+/** The public face as the document tells it, and those rules of LANGUAGE.md that a machine can see. */
 public final class FaceTest {
-    private static final String[] METHODS = {
-        "int again(int)", "int add(int,int,int)", "int along(int,int)", "int best(int)", "int cell(int,int)",
-        "int change(int,int)", "int count(int)", "int drawn(int)", "int drill(int,int)", "int drop(int)",
-        "int entry(int,int)", "int fault()", "int hidden(int)", "int judge(int,long)", "int keep(int)",
-        "int key(int,int)", "int lost(int,int,boolean)", "int plan()", "int see(int,int,int)", "int share(int,boolean)",
-        "int total()", "int undo()", "int unsee()", "int wipe()", "int word(int)", "int would(int,int,int,int)",
-        "int write(int)", "long seed(long)"};
+    private static final Path DOCUMENT = Path.of("../shared/DOC.md");
 
     public static void main(String[] args) throws Exception {
-        constants();
-        methods();
+        String face = faceOfDocument();
+        constants(face);
+        methods(face);
         nested();
         source();
         Due.end("FaceTest");
     }
 
-    private static void constants() {
+    /** What stands in the document under "The public face". */
+    private static String faceOfDocument() throws Exception {
+        Matcher block = Pattern.compile("(?s)## The public face\\s+```java\n(.*?)```").matcher(Files.readString(DOCUMENT));
+        boolean found = block.find();
+        Due.holds("the document has a face", found);
+        return found ? block.group(1) : "";
+    }
+
+    /** A method without the names of what it takes, so that it can be held against the class. */
+    private static Set<String> methodsOf(String face) {
+        Set<String> told = new TreeSet<>();
+        Matcher methods = Pattern.compile("public (\\w+ \\w+\\()(.*?)\\);").matcher(face);
+        while (methods.find()) {
+            told.add(methods.group(1) + methods.group(2).replaceAll(" \\w+(,|$)", "$1").replace(" ", "") + ")");
+        }
+        Due.is("methods of the document's face", told.size(), 28);
+        return told;
+    }
+
+    private static void constantsAreAsTold(String face) throws Exception {
+        Matcher line = Pattern.compile("public static final int (.*?);").matcher(face);
+        Due.holds("the face has constants", line.find());
+        for (String one : line.group(1).split(", ")) {
+            String[] parts = one.split(" = ");
+            Due.is(parts[0], CrossTable.class.getField(parts[0]).getInt(null), Integer.parseInt(parts[1]));
+        }
+    }
+
+    private static void constants(String face) throws Exception {
+        constantsAreAsTold(face);
         Due.is("UNKNOWN", CrossTable.UNKNOWN, -1);
         Due.is("OUTSIDE", CrossTable.OUTSIDE, -2);
         Due.is("STATE", CrossTable.STATE, -3);
@@ -45,7 +69,7 @@ public final class FaceTest {
         Due.same("open fields", open.toString(), "[FULL, NONE, OUTSIDE, STATE, UNKNOWN]");
     }
 
-    private static void methods() {
+    private static void methods(String face) {
         int modifiers = CrossTable.class.getModifiers();
         Due.holds("public final class", Modifier.isPublic(modifiers) && Modifier.isFinal(modifiers));
         Constructor<?>[] made = CrossTable.class.getDeclaredConstructors();
@@ -60,7 +84,7 @@ public final class FaceTest {
                 openNames.add(method.getName());
             }
         }
-        Due.same("open methods", open.toString(), new TreeSet<>(Set.of(METHODS)).toString());
+        Due.same("open methods", open.toString(), methodsOf(face).toString());
         for (Class<?> inside : CrossTable.class.getDeclaredClasses()) {
             for (Method method : inside.getDeclaredMethods()) {
                 Due.holds(method + " has a name of its own", !openNames.contains(method.getName()));

@@ -2,8 +2,11 @@ import java.util.Random;
 
 /** Runs of calls by chance (by fixed seeds), each answered as the plain oracle answers it; nothing is thrown. */
 public final class OracleTest {
-    private static final int RUNS = 1500;
-    private static final int CALLS = 200;
+    private static final int RUNS = 1000;
+    /** As many as the document lets a table be used for. */
+    private static final int MOST_CALLS = 512;
+    /** What tellPlan makes at most: it wipes, writes 11 letters, asks for the fault and plans. */
+    private static final int PLAN_CALLS = 14;
     private static final String[] WORDS = {"count", "sum", "most", "least", "kinds"};
     private static final int[] WILD = {Integer.MIN_VALUE, Integer.MAX_VALUE, -1, -9, -2, 100, 101, 255, 256, 32, 33, 64};
 
@@ -11,6 +14,7 @@ public final class OracleTest {
     private final CrossTable x = new CrossTable();
     private final Oracle y = new Oracle();
     private final String run;
+    private int calls = 0;
 
     private OracleTest(int seed) {
         chance = new Random(seed);
@@ -20,12 +24,19 @@ public final class OracleTest {
     public static void main(String[] args) {
         for (int seed = 0; seed < RUNS; seed++) {
             OracleTest test = new OracleTest(seed);
-            test.tellPlan();
-            for (int i = 0; i < CALLS; i++) {
-                test.call();
-            }
+            test.toTheLastCall();
         }
         Due.end("OracleTest");
+    }
+
+    private void toTheLastCall() {
+        tellPlan();
+        while (calls <= MOST_CALLS - PLAN_CALLS) {
+            call();
+        }
+        while (calls < MOST_CALLS) {
+            askTable();
+        }
     }
 
     /** A number from least to most, now and then a wild one. */
@@ -49,7 +60,9 @@ public final class OracleTest {
         };
     }
 
+    /** Each answer is that of one call. */
     private void is(String call, long got, long want) {
+        calls++;
         Due.is(run + call, got, want);
     }
 
